@@ -13,6 +13,7 @@ public final class Promises01to19Test {
         promise2append();
         promise3truncate();
         promise4load();
+        promise4loadAfterForecasts();
         promise4loadWithAnError();
         promise4rangesOfNumbers();
         promises5and6wrongTokens();
@@ -116,6 +117,19 @@ public final class Promises01to19Test {
         T.due("4 without letters nothing is left to do", x.minutesToFinish(), 0);
     }
 
+    /** Nothing of the office before is left, wherever a forecast of it ended. */
+    private static void promise4loadAfterForecasts() {
+        for (int minutes = 1; minutes < 60; minutes++) {
+            PenOffice x = Testing.office("office 4 2 3 4 2 3 1;clerk a;clerk b;letter a 9 2 1 0;letter b 9 3 5 3;letter a 1 4 9 9;");
+            x.pass(minutes);
+            x.letterWrittenIn(0);
+            Testing.type(x, "office 0 5 9 0 2 3 1;clerk c;clerk d;letter d 2 0 5 0;letter c 3 0 5 0;letter c 4 0 5 0;letter c 5 0 5 0;");
+            x.load();
+            T.due("4 load after a forecast of minute " + minutes, Testing.stateOf(x), "2 4 0 0 -1 -1 -1 0 9 0 0 0 0 0 0 0 24 | c | d"
+                + " | 1 2 0 5 0 2 -1 0 | 0 3 0 5 0 3 -1 0 | 0 4 0 5 0 4 -1 0 | 0 5 0 5 0 5 -1 0");
+        }
+    }
+
     private static void promise4loadWithAnError() {
         PenOffice x = new PenOffice();
         x.pass(3);
@@ -183,6 +197,7 @@ public final class Promises01to19Test {
         wrongSetup("|", 1);
         wrongSetup(" \n |", 1);
         wrongSetup("|ofice 0 1 10 2 3 4 1;", 1);
+        wrongSetup("|affice 0 1 10 2 3 4 1;", 1);
         wrongSetup("|officer 0 1 10 2 3 4 1;", 1);
         wrongSetup("|0", 1);
         wrongSetup("|;", 1);
@@ -254,6 +269,13 @@ public final class Promises01to19Test {
 
     private static void promises5and6scripts() {
         wrongScript("|ledger", 1);
+        wrongScript("|better ann 1 0 1 0;", 1);
+        wrongScript("|mass 1;", 1);
+        PenOffice cut = new PenOffice();
+        Testing.type(cut, "pass 12;");
+        cut.truncate(6);
+        T.refused("a text that was cut", IllegalArgumentException.class, cut::runScript);
+        T.due("its position", cut.errorPosition(), 6);
         wrongScript("|office 1;", 1);
         wrongScript("|clerk cid;", 1);
         wrongScript("|;", 1);

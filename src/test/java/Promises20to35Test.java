@@ -17,6 +17,8 @@ public final class Promises20to35Test {
         promise32wrongPolicies();
         promise31selectedLetter();
         promises33to35clerks();
+        promises30to37afterUndo();
+        promises30to37ofTwelve();
         T.end();
     }
 
@@ -261,6 +263,40 @@ public final class Promises20to35Test {
         T.due("17 a hand-over is going on", x.handOverLeft(), 2);
         T.due("31 during a hand-over", x.selectedLetter(), 1);
         T.due("11 the holder stays", x.holder(), 0);
+    }
+
+    private static String countsOf(PenOffice x) {
+        return x.readyCount() + " " + x.openLettersOf(0) + " " + x.openLettersOf(1) + " " + x.workOf(0) + " " + x.workOf(1) + " "
+            + x.finishedCount() + " " + x.lateCount();
+    }
+
+    /** A letter that an undo took away counts nowhere. */
+    private static void promises30to37afterUndo() {
+        PenOffice x = Testing.office("office 0 0 99 0 2 5 0;clerk a;clerk b;letter a 2 0 50 1;");
+        x.addLetter(1, 3, 0, 1, 9);
+        T.due("30 to 37 with a second letter", countsOf(x), "2 1 1 2 3 0 0");
+        x.undo();
+        T.due("30 to 37 after undo", countsOf(x), "1 1 0 2 0 0 0");
+        x.addLetter(1, 1, 0, 1, 9);
+        x.pass(3);
+        T.due("30 to 37 with a late letter", countsOf(x), "0 0 0 0 0 2 1");
+        x.undo();
+        x.undo();
+        T.due("30 to 37 after two undos", countsOf(x), "1 1 0 2 0 0 0");
+        x.addLetter(0, 4, 0, 9, 9);
+        T.due("26 of a letter at a number that was finished", x.finishMinute(1), -1);
+        x.pass(3);
+        T.due("27 of a letter at a number that was written", x.waitingTime(1), 2);
+    }
+
+    private static void promises30to37ofTwelve() {
+        PenOffice x = Testing.office("office 0 0 99 0 2 5 0;clerk a;clerk b;" + "letter b 2 0 3 1;".repeat(12));
+        T.due("30 to 37 of twelve letters", countsOf(x), "12 0 12 0 24 0 0");
+        T.due("35 of twelve letters", x.busiestClerk(), 1);
+        x.pass(24);
+        T.due("30 to 37 of twelve finished letters", countsOf(x), "0 0 0 0 0 12 11");
+        T.due("38 of twelve finished letters", x.greatestLateness(), 21);
+        T.due("44 of twelve finished letters", x.meanTurnaround(), 13.0);
     }
 
     private static void promises33to35clerks() {

@@ -154,7 +154,9 @@ public final class Promises36to45Test {
         x.pass(4);
         T.due("43 at minute 7", x.utilization(), 0.2857143f);
         PenOffice y = Testing.office("office 0 0 99 0 1 5 0;clerk a;clerk b;letter b 2 0 50 1;");
-        y.pass(2);
+        y.pass(1);
+        T.due("43 at minute 1 of a pen in full use", y.utilization(), 1.0f);
+        y.pass(1);
         T.due("43 of a pen in full use", y.utilization(), 1.0f);
     }
 
