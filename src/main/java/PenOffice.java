@@ -52,10 +52,10 @@ public final class PenOffice {
     private static final int DISCARD = 5;
     private static final int[] NUMBERS_OF_COMMAND = {4, 1, 1, 2, 2, 1};
 
-    private final State state = new State();
+    private final State state;
     // Forecasts run on the spare state, and a setup text is read into it.
     private final State spare = new State();
-    private final Input input = new Input();
+    private final Input input;
     private final Script script = new Script();
     private final Output output = new Output();
     private final History history = new History();
@@ -66,11 +66,13 @@ public final class PenOffice {
         for (int slot = 0; slot < SLOTS; slot++) {
             saved[slot] = new State();
         }
-        input.putText(FIRST_SETUP);
-        if (readSetup(input, spare)) {
-            state.copyFrom(spare);
-        }
-        input.length = 0;
+        Input text = new Input();
+        State first = new State();
+        text.putText(FIRST_SETUP);
+        readSetup(text, first);
+        text.length = 0;
+        input = text;
+        state = first;
     }
 
     // ---- input
@@ -647,7 +649,7 @@ public final class PenOffice {
         return greatest;
     }
 
-    /** Executes a command of a script, unless its method would throw; tells whether it was executed. */
+    /** Tells whether the command was executed: a script stops quietly where the method of a command would throw. */
     private boolean execute(Command command) {
         int a = command.numbers[0];
         int b = command.numbers[1];
@@ -697,7 +699,7 @@ public final class PenOffice {
 
     // ---- the setup text
 
-    /** Reads the whole input as a setup text into an office; tells whether it has no error. */
+    /** Tells whether the text has no error; if it has one, the office is left half read, so it must not be the one in use. */
     private static boolean readSetup(Input in, State office) {
         in.begin();
         if (!readSettings(in, office) || !readClerks(in, office.clerks)) {
@@ -764,7 +766,7 @@ public final class PenOffice {
         return true;
     }
 
-    /** Why a change is refused. */
+    /** Why a change is refused: scripts ask for this where a call of the face throws. */
     private enum Fault { NOTHING, INDEX, ARGUMENT, STATE }
 
     /** The settings of an office, which only a new setup replaces. */
@@ -785,7 +787,6 @@ public final class PenOffice {
             blot = other.blot;
         }
 
-        /** Returns the effective priority of a letter with a priority that has waited so long. */
         int effective(int priority, int waited) {
             return agingTime > 0 ? priority + waited / agingTime : priority;
         }
@@ -805,7 +806,6 @@ public final class PenOffice {
             }
         }
 
-        /** Adds the clerk whose name stands in the text from one index up to another. */
         void add(byte[] text, int from, int to) {
             if (count >= MOST_CLERKS || to - from > LONGEST_NAME) {
                 return;
@@ -907,7 +907,7 @@ public final class PenOffice {
             }
         }
 
-        /** Goes to minute 0 of the settings and clerks, without letters. */
+        /** Clears what an earlier use has left, for forecasts run on the state that a setup is read into. */
         void begin() {
             letterCount = 0;
             minute = 0;
@@ -958,7 +958,6 @@ public final class PenOffice {
             return letter >= 0 && letter < letterCount;
         }
 
-        /** Adds a letter behind the last one and returns its number; NONE if there is no room. */
         int putLetter(int clerk, int length, int arrival, int deadline, int priority) {
             if (letterCount >= MOST_LETTERS) {
                 return NONE;
@@ -976,7 +975,6 @@ public final class PenOffice {
             return letterCount - 1;
         }
 
-        /** Finishes a letter at the current minute and returns the remaining time that it had. */
         int dropLetter(int number) {
             Letter letter = letters[number];
             int rest = letter.remaining;
@@ -1040,7 +1038,7 @@ public final class PenOffice {
             return count;
         }
 
-        /** Returns the greatest lateness of the finished letters, of which there is one at least. */
+        /** The caller has seen to it that a letter is finished. */
         int worstLateness() {
             int worst = -LARGEST_NUMBER;
             for (int i = 0; i < letterCount; i++) {
@@ -1071,7 +1069,6 @@ public final class PenOffice {
 
         // ---- orders of the letters
 
-        /** Returns the letter that a policy selects at the current minute, or NONE. */
         int selectBy(int selection) {
             if (selection == ROUND_ROBIN) {
                 return selectInTurn();
@@ -1314,7 +1311,6 @@ public final class PenOffice {
             }
         }
 
-        /** Goes to the first token of the text and forgets the error of the text before. */
         void begin() {
             errorCode = 0;
             errorPosition = NONE;
@@ -1322,7 +1318,6 @@ public final class PenOffice {
             advance();
         }
 
-        /** Goes to the next token. */
         void advance() {
             start = after;
             while (start < length && (bytes[start] == ' ' || bytes[start] == '\n')) {
@@ -1349,7 +1344,7 @@ public final class PenOffice {
             }
         }
 
-        /** Keeps an error of the token, and returns false. */
+        /** Returns false always, so that a reader can end with it. */
         boolean fail(int code) {
             errorCode = code;
             errorPosition = start;
@@ -1420,7 +1415,7 @@ public final class PenOffice {
             return true;
         }
 
-        /** Takes numbers of any size. */
+        /** The numbers of a script are not checked by the parser. */
         boolean takeAnyNumbers(int count) {
             for (int i = 0; i < count && i < numbers.length; i++) {
                 if (!takeNumber(i)) {
@@ -1462,7 +1457,6 @@ public final class PenOffice {
             }
         }
 
-        /** Reads the whole input as a script; tells whether it has no error. */
         boolean read(Input in, Clerks clerks) {
             in.begin();
             count = 0;
@@ -1520,7 +1514,6 @@ public final class PenOffice {
         }
     }
 
-    /** The output text. */
     private static final class Output {
         final byte[] bytes = new byte[OUTPUT_BYTES];
         int length;
