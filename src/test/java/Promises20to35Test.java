@@ -119,6 +119,10 @@ public final class Promises20to35Test {
         T.due("28 of a finished letter, which waited 2 minutes", x.effectivePriority(2), 2);
         x.setPriority(1, 0);
         T.due("28 with a new priority", x.effectivePriority(1), 2);
+        PenOffice y = Testing.office("office 0 0 99 0 1 1 0;clerk a;clerk b;letter a 9 0 99 4;letter b 1 1 99 9;letter b 1 8 99 2;");
+        y.pass(6);
+        T.due("28 with an aging time of 1", y.effectivePriority(1), 14);
+        T.due("28 of a letter that has not arrived", y.effectivePriority(2), 2);
     }
 
     private static void promises29and30ready() {

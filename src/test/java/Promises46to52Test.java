@@ -201,6 +201,7 @@ public final class Promises46to52Test {
         T.due("52 two go", fewest("letter a 4 0 4 0;letter a 4 0 5 0;letter b 4 0 6 0;letter b 2 0 6 0;"), 2);
         T.due("52 all are late", fewest("letter a 4 0 3 0;".repeat(12)), 12);
         T.due("52 twelve in time", fewest("letter a 4 0 48 0;".repeat(12)), 0);
+        T.due("52 one of twelve", fewest("letter a 4 0 47 0;".repeat(12)), 1);
         T.due("52 four go", fewest("letter a 9 0 10 0;letter a 2 0 10 0;letter a 9 0 10 0;letter b 8 0 11 0;letter b 3 0 12 0;"
             + "letter b 8 0 12 0;"), 4);
         T.due("52 three in time", fewest("letter a 4 0 12 0;".repeat(12)), 9);
