@@ -1,3 +1,4 @@
+import java.util.NoSuchElementException;
 import java.util.Objects;
 
 /** Counts the answers of a test that are as due, and prints every other one. */
@@ -7,12 +8,27 @@ final class Testing {
         Object run();
     }
 
+    static final Class<IndexOutOfBoundsException> INDEX = IndexOutOfBoundsException.class;
+    static final Class<IllegalArgumentException> ARGUMENT = IllegalArgumentException.class;
+    static final Class<IllegalStateException> STATE = IllegalStateException.class;
+    static final Class<NoSuchElementException> ELEMENT = NoSuchElementException.class;
+
     private final String name;
+    private String sentence = "";
     private int passed;
     private int failed;
 
     Testing(String name) {
         this.name = name;
+    }
+
+    /** Names the sentence of the document that the next answers are about. */
+    void about(String words) {
+        sentence = " [" + words + "]";
+    }
+
+    int answers() {
+        return passed + failed;
     }
 
     void due(String what, Object got, Object want) {
@@ -30,12 +46,19 @@ final class Testing {
         count(got.equals("threw " + want.getName()), what + " " + got + ", due is a throw of " + want.getName());
     }
 
+    /** Asks the same, and that the call leaves the state as it was. */
+    void refusedAndKept(PenOffice x, String what, Class<? extends RuntimeException> want, Call call) {
+        String before = stateOf(x);
+        refused(what, want, call);
+        due("the state after " + what, stateOf(x), before);
+    }
+
     private void count(boolean right, String fault) {
         if (right) {
             passed++;
         } else {
             failed++;
-            System.out.println(name + ": " + fault);
+            System.out.println(name + sentence + ": " + fault);
         }
     }
 
