@@ -199,6 +199,14 @@ final class BoundariesOf01to19 {
             t.refused("a change", Testing.STATE, x::undo);
             t.refused("slot 0", Testing.STATE, () -> x.restore(0));
             t.refused("slot 1", Testing.STATE, () -> x.restore(1));
+            // A forecast may end in any minute: nothing of it is left in the next office.
+            for (int minutes = 0; minutes < 30; minutes++) {
+                PenOffice y = Boundaries.withSettings("4 2 3 4 2 3 1", "letter a 3 2 9 0;letter b 2 3 5 3;letter a 4 2 9 9;");
+                y.letterWrittenIn(minutes);
+                Testing.type(y, Boundaries.PLAIN + "letter b 3 0 5 1;");
+                y.load();
+                t.due("after a forecast of " + minutes, Testing.stateOf(y), "2 1 0 0 -1 -1 -1 0 99 0 0 0 0 0 0 0 3 | a | b | 1 3 0 5 1 3 -1 0");
+            }
         });
         all.test(4, "Returns the number of letters", t -> {
             for (int letters = 0; letters <= 12; letters++) {

@@ -81,6 +81,9 @@ final class BoundariesOf36to52 {
             t.due("a letter that is not finished", x.greatestLateness(), 0);
             Testing.passMany(x, 1898);
             t.due("at the end", x.greatestLateness(), 999);
+            PenOffice w = Boundaries.plain("letter a 5 0 1 0;letter a 1 0 999 0;");
+            w.pass(6);
+            t.due("the first by 4 minutes, the second by -993", w.greatestLateness(), 4);
             PenOffice y = Boundaries.plain("letter a 1 0 9 0;");
             Testing.passMany(y, 2000);
             y.addLetter(0, 1, 0, 1, 0);
@@ -445,6 +448,7 @@ final class BoundariesOf36to52 {
             PenOffice x = Boundaries.withSettings("0 0 99 0 1 20 0", "letter a 4 0 1 9;letter b 3 0 6 0;");
             x.pass(1);
             t.due("policy 4", x.bestPolicy(), 4);
+            t.due("with policy 4 no letter is ever finished", Testing.office(ENDLESS).bestPolicy(), 0);
         });
         all.test(51, "among several such policies the one with the least result of waitingWith(), and among several such ones the lowest number", t -> {
             t.due("without letters", Boundaries.plain("").bestPolicy(), 0);
@@ -503,6 +507,9 @@ final class BoundariesOf36to52 {
             t.due("eleven of twelve", fewest("letter a 1 0 1 0;".repeat(12)), 11);
             t.due("the longest is late", fewest("letter a 6 0 6 0;letter a 4 0 7 0;letter a 3 0 7 0;"), 1);
             t.due("the first by deadline is late", fewest("letter a 6 0 6 0;letter a 4 0 8 0;letter a 4 0 8 0;"), 1);
+            t.due("the longest, in the middle, is late", fewest("letter a 2 0 4 0;letter b 6 0 8 0;letter a 3 0 10 0;letter a 3 0 10 0;"), 1);
+            t.due("three are late one after the other",
+                fewest("letter a 2 0 4 0;letter b 6 0 8 0;letter a 3 0 10 0;letter a 3 0 10 0;letter b 5 0 11 0;letter b 4 0 11 0;"), 3);
             PenOffice x = Boundaries.plain("letter a 2 0 1 0;letter b 9 0 1 0;letter b 1 0 1 0;");
             t.due("at minute 0", x.fewestLate(), 2);
             x.pass(2);

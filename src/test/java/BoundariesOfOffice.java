@@ -4,6 +4,7 @@ final class BoundariesOfOffice {
     }
 
     static void addTo(Sentences all) {
+        calls(all);
         clerksAndLetters(all);
         finishedReadyLate(all);
         settings(all);
@@ -17,12 +18,33 @@ final class BoundariesOfOffice {
         policy3(all);
         policy4(all);
         runs(all);
-        all.withoutBoundary(0,
+        all.withoutBoundary(0, "A simulator of clerks who share one pen", "what later calls answer is free",
             "It schedules letters by five policies (first come, shortest remaining time, earliest deadline, priority with aging, round robin),"
                 + " with hand-over times, ink refills and blots after preemptions, and it compares policies",
             "Clerks and letters", "Settings", "The office", "The holder is the clerk who has the pen", "One minute",
             "Otherwise a letter is selected as described below", "The selected letter is written", "Selection",
             "The policies are numbered as follows", "The waiting time is defined at the method waitingTime()");
+    }
+
+    private static void calls(Sentences all) {
+        all.test(0, "An object is used for at most 512 calls after it has been made", t -> {
+            PenOffice x = new PenOffice();
+            for (int call = 0; call < 511; call++) {
+                x.pass(3);
+            }
+            t.due("the 512th call", x.undo(), 5);
+            PenOffice y = new PenOffice();
+            for (int call = 0; call < 511; call++) {
+                y.bestPolicy();
+            }
+            t.due("the 512th of the dearest calls", y.bestPolicy(), 3);
+            PenOffice z = new PenOffice();
+            for (int call = 0; call < 510; call++) {
+                z.runScript();
+            }
+            z.append(-1, -1, -1, -1, -1);
+            t.refused("the 512th call, which is refused", Testing.ARGUMENT, z::load);
+        });
     }
 
     private static void clerksAndLetters(Sentences all) {

@@ -77,6 +77,9 @@ final class BoundariesOfTexts {
             Boundaries.wrongScript(t, "pass 9|:;", 1);
             Boundaries.wrongScript(t, "pass 1|a;", 1);
             Boundaries.wrongScript(t, "pass |-1;", 1);
+            // A number 0 would have code 2.
+            Boundaries.wrongSetup(t, "office 0 0 |/", 1);
+            Boundaries.wrongSetup(t, "office 0 0 |:", 1);
         });
         all.test(0, "Spaces (byte 32) and line feeds (byte 10) separate tokens and have no other meaning", t -> {
             for (int sign = 0; sign < 256; sign++) {
@@ -128,6 +131,9 @@ final class BoundariesOfTexts {
             Boundaries.wrongSetup(t, "office 1 1 1 1 1 1|;clerk a;clerk b;", 1);
             Boundaries.wrongSetup(t, "office 1 1 1 1 1 1 1 |1;clerk a;clerk b;", 1);
             Boundaries.wrongSetup(t, "|clerk a;clerk b;", 1);
+            Boundaries.wrongSetup(t, "|1 1 1 1 1 1 1;clerk a;clerk b;", 1);
+            Boundaries.wrongSetup(t, "|affice 1 1 1 1 1 1 1;clerk a;clerk b;", 1);
+            Boundaries.wrongSetup(t, "|officd 1 1 1 1 1 1 1;clerk a;clerk b;", 1);
             Boundaries.wrongSetup(t, HEAD + "clerk a;|;clerk b;", 1);
             Boundaries.wrongSetup(t, HEAD + "clerk a;clerk b;|;", 1);
             Boundaries.wrongSetup(t, HEAD + "clerk a;|letter a 1 1 1 1;clerk b;", 1);

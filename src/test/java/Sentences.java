@@ -25,7 +25,7 @@ final class Sentences {
         testing = new Testing(name);
     }
 
-    /** Runs the test of a sentence of a promise, or of the terms; what the test itself throws is a fault of it. */
+    /** Runs the test of a sentence of a promise, or of what stands before the promises; what the test itself throws is a fault of it. */
     void test(int promise, String words, Check check) {
         String sentence = name(promise, words);
         testing.about(sentence);
@@ -91,7 +91,7 @@ final class Sentences {
     }
 
     private static int promiseOf(String heading) {
-        if (heading.equals("## Terms")) {
+        if (heading.equals("## What it is") || heading.equals("## Terms")) {
             return TERMS;
         }
         return heading.matches("## Promise \\d+: .*") ? Integer.parseInt(heading.replaceAll("## Promise (\\d+): .*", "$1")) : ELSEWHERE;
